@@ -1178,8 +1178,8 @@ public final class CorkedTalk {
         private static final int NEVER = 7;
 
         int sayings;
+        final int[] need = new int[MOST_SAYINGS];
         private int reach;
-        private final int[] need = new int[MOST_SAYINGS];
         private final int[] near = new int[MOST_SAYINGS];
         private final int[] spots = new int[MOST_SAYINGS];
 
@@ -1197,7 +1197,7 @@ public final class CorkedTalk {
             if (c.fizz[s] > c.cork[s]) {
                 return 0;
             }
-            return c.shock > 0 ? (c.cork[s] - c.fizz[s]) / c.shock + 1 : NEVER;
+            return c.shock > 0 ? Math.min(NEVER, (c.cork[s] - c.fizz[s]) / c.shock + 1) : NEVER;
         }
 
         private void layOut() {
@@ -1227,15 +1227,13 @@ public final class CorkedTalk {
 
         int from(int first) {
             int gone = 1 << first;
-            for (int pass = 0; pass < sayings; pass++) {
-                int before = gone;
+            int before = 0;
+            for (int pass = 0; pass < sayings && gone != before; pass++) {
+                before = gone;
                 for (int s = 0; s < sayings; s++) {
-                    if (Integer.bitCount(near[s] & gone) >= need[s]) {
+                    if (!in(gone, s) && Integer.bitCount(near[s] & gone) >= need[s]) {
                         gone |= 1 << s;
                     }
-                }
-                if (gone == before) {
-                    break;
                 }
             }
             return gone;
@@ -1355,7 +1353,8 @@ public final class CorkedTalk {
         final int[] row = new int[MOST_SAYINGS];
         private final Trains trains;
         private final int[] places = new int[MOST_SAYINGS];
-        private final int[] tried = new int[MOST_SAYINGS];
+        /** By saying: which of the places it has in the row that is tried. */
+        private final int[] taken = new int[MOST_SAYINGS];
         private int used;
         private int least;
         private int known = NONE;
@@ -1382,7 +1381,7 @@ public final class CorkedTalk {
             best = c.sayings + 1;
             // with none near another: no laying has less
             least = trains.greatest(best);
-            settle(0, least);
+            settle(this, 0, least);
         }
 
         private void sortPlaces(Cellar c) {
@@ -1396,26 +1395,42 @@ public final class CorkedTalk {
             }
         }
 
-        private void settle(int s, int number) {
-            if (s >= trains.sayings) {
-                best = number;
-                System.arraycopy(tried, 0, row, 0, MOST_SAYINGS);
+        private static void settle(Laying l, int s, int number) {
+            if (s >= l.trains.sayings) {
+                l.keep(number);
                 return;
             }
-            for (int i = 0; i < trains.sayings && best > least; i++) {
-                if (!isNextFree(i)) {
+            for (int i = l.firstPlaceFor(s); i < l.trains.sayings && l.best > l.least; i++) {
+                if (!l.isNextFree(i)) {
                     continue;
                 }
-                used |= 1 << i;
-                tried[s] = places[i];
-                trains.lay(s, places[i]);
-                int soFar = trains.greatest(best);
-                if (soFar < best) {
-                    settle(s + 1, soFar);
+                l.used |= 1 << i;
+                l.taken[s] = i;
+                l.trains.lay(s, l.places[i]);
+                int soFar = l.trains.greatest(l.best);
+                if (soFar < l.best) {
+                    settle(l, s + 1, soFar);
                 }
-                trains.takeUp(s);
-                used &= ~(1 << i);
+                l.trains.takeUp(s);
+                l.used &= ~(1 << i);
             }
+        }
+
+        private void keep(int number) {
+            best = number;
+            for (int s = 0; s < trains.sayings; s++) {
+                row[s] = places[taken[s]];
+            }
+        }
+
+        /** Sayings of one need may change places and no number changes, so in the first row theirs rise. */
+        private int firstPlaceFor(int s) {
+            for (int t = s - 1; t >= 0; t--) {
+                if (trains.need[t] == trains.need[s]) {
+                    return taken[t] + 1;
+                }
+            }
+            return 0;
         }
 
         /** Of like places only the first that is free, lest the same row be tried again. */
