@@ -46,9 +46,9 @@ public final class CorkedTalk {
         reader = new Reader();
         run = new Run();
         trains = new Trains();
-        layout = new Laying(trains);
+        layout = new Laying();
         orders = new Orders();
-        laws = new Laws(run);
+        laws = new Laws();
     }
 
     public int feed(int a, int b, int c, int d, int e) {
@@ -1351,17 +1351,13 @@ public final class CorkedTalk {
     private static final class Laying {
         int best;
         final int[] row = new int[MOST_SAYINGS];
-        private final Trains trains;
+        private final Trains trains = new Trains();
         private final int[] places = new int[MOST_SAYINGS];
         /** By saying: which of the places it has in the row that is tried. */
         private final int[] taken = new int[MOST_SAYINGS];
         private int used;
         private int least;
         private int known = NONE;
-
-        Laying(Trains trains) {
-            this.trains = trains;
-        }
 
         void forget() {
             known = NONE;
@@ -1613,16 +1609,12 @@ public final class CorkedTalk {
 
         int size;
         final int[] fitting = new int[LAWS];
-        private final Run run;
+        private final Run run = new Run();
         /** By cellar and law: how many burst in each year. */
         private final long[] histories = new long[MOST_OF_SORT * LAWS];
         private final boolean[] known = new boolean[MOST_OF_SORT];
         private final int[] tally = new int[MOST_SAYINGS + 1];
         private int base;
-
-        Laws(Run run) {
-            this.run = run;
-        }
 
         void forget() {
             for (int i = 0; i < MOST_OF_SORT; i++) {

@@ -198,6 +198,9 @@ public final class PromisesTest {
         fault(0, "shock 123;", 1, 6);
         fault(0, "shock 003;", 1, 6);
         fault(0, "shocks 3;", 1, 0);
+        fault(0, "shockz 3;", 1, 0);
+        fault(0, "xhock 3;", 1, 0);
+        fault(0, "shoca 3;", 1, 0);
         fault(0, "shoc k 3;", 1, 0);
         fault(0, "shock 3;Reach 1;", 1, 8);
         fault(0, "shock\t3;", 1, 5);
@@ -707,6 +710,21 @@ public final class PromisesTest {
         Teller.tell(x, 2, 1, "");
         T.due("all", 100, x.fits(0, 1, 0));
         T.due("the last", 99, x.fits(0, 1, 109));
+        Teller.tell(x, 2, 1, "heard 2 2;heard 6 1;heard 6 1;heard 2 2;");
+        T.due("told twice", 8, x.fits(0, 1, 0));
+        Teller.tell(x, 0, 1, "shock 5;reach 7;saying 9 0 5 1 24 0;saying 9 0 0 0 8 7;saying 9 0 0 0 9 8;");
+        Teller.tell(x, 2, 1, "heard 20 2;heard 19 0;");
+        // 1 is shocked by 9 at a distance of 7, and 2 by 9 from 1, which is not above 9; from 0 it is at a distance of 8
+        T.due("one law", 1, x.fits(1, 1, 0));
+        T.due("the law", 79, x.fits(1, 1, 10));
+        T.due("one law: reach", 7, x.fits(1, 1, 1));
+        T.due("one law: shock", 9, x.fits(1, 1, 2));
+        T.due("one law: the first year", 1, x.fits(1, 1, 3));
+        T.due("one law: least", 9, x.shock(1, 1, false));
+        T.due("one law: greatest", 9, x.shock(1, 1, true));
+        T.due("one law: odds", 1, x.odds(1, 1, 7, true));
+        Teller.tell(x, 2, 1, "");
+        T.due("ask in the last year", 20, x.fits(1, 1, 3));
         Teller.tell(x, 0, 0, "");
         T.due("another cellar there", 0, x.fits(0, 0, 0));
         x.image(0);
@@ -771,6 +789,15 @@ public final class PromisesTest {
         T.due("from the first", 1, y.wit(0, 15));
         T.due("all last", 15, y.wit(0, 18));
         T.due("none is the earliest", NONE, y.wit(0, 17));
+        CorkedTalk u = withCellar("shock 0;saying 9 0 0 1 16 0;saying 9 0 0 1 33 20;");
+        T.due("three rows of calm years", 16, u.wit(0, 14));
+        T.due("the first of several", 1, u.wit(0, 15));
+        T.due("as far as can be", 1, u.wit(0, 5));
+        T.due("as far as can be", 20, u.wit(0, 6));
+        CorkedTalk v = withCellar("saying 1 0 0 0 1 0;saying 1 0 0 0 1 3;saying 1 0 0 0 1 6;saying 1 0 0 0 1 9;saying 1 0 0 0 1 12;"
+            + "saying 1 0 0 0 1 18;saying 1 0 0 0 1 20;");
+        T.due("the last two", 56, v.wit(0, 5));
+        T.due("the last two", 2, v.wit(0, 6));
         CorkedTalk z = withCellar("saying 4 1 0 0 1 0;");
         T.due("half is not less", 3, z.wit(0, 11));
         T.due("one is never close", NONE, z.wit(0, 5));
@@ -842,6 +869,11 @@ public final class PromisesTest {
         T.due("the first of several years", 2, y.after(0, 0, 1));
         T.due("the least of several", 2, y.after(0, 0, 2));
         T.due("wit as it was then", 4 + 1, y.after(0, 0, 3));
+        Teller.tell(y, 1, 0, "year;open 2;open 3;");
+        T.due("the least of several, opened first", 2, y.after(0, 0, 2));
+        Teller.tell(y, 1, 0, "taint 0;year;year;");
+        T.due("tainted ones are waste too", 4, y.after(0, 0, 3));
+        T.due("nothing was opened", NONE, y.after(0, 0, 2));
     }
 
     private static void promise27Odds() {
