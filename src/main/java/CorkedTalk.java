@@ -72,6 +72,9 @@ public final class CorkedTalk {
     }
 
     public int text(int sort, int at) {
+        // the tape is taken whatever comes of it, also where no text is read
+        int length = told.length;
+        told.length = 0;
         told.fault = 0;
         told.faultPlace = NONE;
         if (sort < 0 || sort >= SORTS) {
@@ -82,8 +85,7 @@ public final class CorkedTalk {
         if (number < 0 || number >= top) {
             return WRONG;
         }
-        reader.read(sort, told.tape, told.length);
-        told.length = 0;
+        reader.read(sort, told.tape, length);
         if (reader.fault != 0) {
             told.fault = reader.fault;
             told.faultPlace = reader.faultPlace;

@@ -81,11 +81,11 @@ final class Model {
     int text(int sort, int at) {
         fault = 0;
         faultPlace = NONE;
+        String text = new String(tape, java.nio.charset.StandardCharsets.ISO_8859_1);
+        tape = new byte[0];
         List<?> all = sort(sort);
         if (all == null) return -2;
         if (at == NONE ? all.size() >= 2 : at < 0 || at >= all.size()) return -2;
-        String text = new String(tape, java.nio.charset.StandardCharsets.ISO_8859_1);
-        tape = new byte[0];
         List<Token> tokens = tokens(text);
         int bad = firstBad(sort, tokens, text.length());
         if (bad != NONE) {

@@ -168,17 +168,21 @@ public final class PromisesTest {
 
     private static void promise4NoText() {
         CorkedTalk x = told();
-        T.due("a fault first", NONE, Teller.tell(x, 0, 0, "x"));
-        Teller.tape(x, Teller.bytes("year;"), 0);
         int[][] wrong = {{0, NONE}, {0, 2}, {0, -2}, {1, 1}, {1, MAX}, {2, 1}, {2, MIN}, {3, NONE}, {3, 0}, {-1, NONE}, {MIN, 0}, {MAX, 0}};
         for (int[] w : wrong) {
+            T.due("a fault first", NONE, Teller.tell(x, 0, 0, "x"));
+            Teller.tape(x, Teller.bytes("year;"), 0);
             T.due("text(" + w[0] + ", " + w[1] + ")", -2, x.text(w[0], w[1]));
             T.due("no text: fault(0)", 0, x.fault(0));
             T.due("no text: fault(1)", NONE, x.fault(1));
+            T.due("no text: the tape is taken all the same", NONE, x.end(1));
+            T.due("no text: the tape begins anew", 20, x.feed(0, 0, 0, 0, 0));
         }
-        T.due("no text is read: the tape stays", 5, x.end(5));
-        T.due("and can be read still", 1, x.text(1, NONE));
-        T.due("as many as may be", -2, x.text(1, NONE));
+        T.due("no text: as many cellars as before", 2, x.count(0));
+        T.due("no text: as many years as before", 1, x.count(1));
+        T.due("a further one", 1, Teller.tell(x, 1, NONE, "year;"));
+        T.due("as many as may be", -2, Teller.tell(x, 1, NONE, "open 0;"));
+        T.due("as many as may be: what was told stays", 0, x.deed(1, 0, 0));
     }
 
     private static void fault(int sort, String text, int fault, int place) {
