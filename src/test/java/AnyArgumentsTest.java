@@ -13,7 +13,8 @@ public final class AnyArgumentsTest {
     private static final String[] CELLARS = {"", "saying 1 1 1 1 1 1;",
         "shock 9;reach 9;" + "saying 30 5 30 5 1 20;".repeat(7) + "answers 0 1;answers 1 0;answers 6 5;",
         "shock 0;reach 0;" + "saying 0 0 0 0 40 0;".repeat(7), "shock 1;reach 9;saying 9 1 5 1 9 0;saying 3 0 5 2 7 9;"
-        + "saying 8 2 4 1 12 18;saying 5 5 1 1 9 20;saying 4 0 9 3 30 3;saying 2 0 3 1 8 4;saying 9 4 9 0 12 11;answers 6 0;"};
+        + "saying 8 2 4 1 12 18;saying 5 5 1 1 9 20;saying 4 0 9 3 30 3;saying 2 0 3 1 8 4;saying 9 4 9 0 12 11;answers 6 0;",
+        "shock 4;reach 2;saying 7 1 5 1 9 0;saying 9 0 9 0 9 1;saying 12 3 3 1 6 4;saying 4 0 8 2 20 5;answers 0 1;answers 1 2;answers 2 0;answers 3 0;"};
     private static final String[] YEARS = {"", "year;".repeat(40), "wire 6;move 6 0;taint 6;year;open 6;year;open 5;open 0;year;"};
     private static final String[] LOGS = {"", "heard 20 7;", "heard 1 7;heard 1 7;", "heard 1 0;heard 20 0;", "heard 1 0;".repeat(8)};
     private static final Teller TELLER = new Teller();
@@ -30,6 +31,9 @@ public final class AnyArgumentsTest {
         TELLER.due("public methods", 30, calls.size());
         for (int run = 0; run < 300; run++) {
             goThrough(run, calls);
+        }
+        for (int run = 0; run < 100; run++) {
+            askBesideFreshOnes(run, calls);
         }
         roomOfDearestCalls();
         TELLER.finish("AnyArgumentsTest");
@@ -55,6 +59,36 @@ public final class AnyArgumentsTest {
             Object second = call.invoke(other, with);
             TELLER.due("run " + run + ": " + call.getName() + " twice the same", true, first.equals(second));
         }
+    }
+
+    /** What was asked before leaves nothing behind: an object that is told the same and asked for the first time answers alike. */
+    private static void askBesideFreshOnes(int run, List<Method> calls) throws Exception {
+        Random dice = new Random(-1 - run);
+        int[] texts = {dice.nextInt(CELLARS.length), dice.nextInt(CELLARS.length), dice.nextInt(YEARS.length), dice.nextInt(YEARS.length),
+            dice.nextInt(LOGS.length), dice.nextInt(LOGS.length)};
+        CorkedTalk asked = told(texts);
+        for (int i = 0; i < 200; i++) {
+            Method call = calls.get(dice.nextInt(calls.size()));
+            if (List.of("feed", "end", "text", "image", "again").contains(call.getName())) {
+                continue;
+            }
+            Object[] with = new Object[call.getParameterCount()];
+            for (int k = 0; k < with.length; k++) {
+                with[k] = call.getParameterTypes()[k] == boolean.class ? (Object) dice.nextBoolean()
+                    : k == 0 ? (Object) dice.nextInt(2) : dice.nextInt(4) > 0 ? (Object) (dice.nextInt(12) - 1) : (Object) dice.nextInt(60);
+            }
+            TELLER.due("run " + run + ": " + call.getName() + " as of a fresh object", true,
+                call.invoke(asked, with).equals(call.invoke(told(texts), with)));
+        }
+    }
+
+    private static CorkedTalk told(int[] texts) {
+        CorkedTalk x = new CorkedTalk();
+        for (int i = 0; i < 6; i++) {
+            String[] all = i < 2 ? CELLARS : i < 4 ? YEARS : LOGS;
+            Teller.tell(x, i / 2, -1, all[texts[i]]);
+        }
+        return x;
     }
 
     private static void tell(CorkedTalk x, Random dice) {

@@ -4,6 +4,8 @@ import java.nio.charset.StandardCharsets;
 final class Teller {
     private int wrong = 0;
     private int asked = 0;
+    private String sentence = "";
+    private int askedBefore = 0;
 
     static byte[] bytes(String text) {
         return text.getBytes(StandardCharsets.ISO_8859_1);
@@ -32,12 +34,42 @@ final class Teller {
         return x.text(sort, at);
     }
 
+    /** A new object with this cellar, and with these years and this log, if they are not null. */
+    static CorkedTalk told(String cellar, String years, String log) {
+        CorkedTalk x = new CorkedTalk();
+        String[] texts = {cellar, years, log};
+        for (int sort = 0; sort < 3; sort++) {
+            if (texts[sort] != null && tell(x, sort, CorkedTalk.NONE, texts[sort]) != 0) {
+                throw new IllegalStateException("no text: " + texts[sort]);
+            }
+        }
+        return x;
+    }
+
+    static CorkedTalk cellar(String text) {
+        return told(text, null, null);
+    }
+
+    /** The document's sentence that the answers from here on are due by. */
+    void says(String words) {
+        closeSentence();
+        sentence = words;
+        askedBefore = asked;
+    }
+
+    private void closeSentence() {
+        if (!sentence.isEmpty() && asked == askedBefore) {
+            wrong++;
+            System.out.println("nothing was asked by: " + sentence);
+        }
+    }
+
     void due(String call, long want, long got) {
         asked++;
         if (got != want) {
             wrong++;
             if (wrong <= 40) {
-                System.out.println(call + " answered " + got + ", due is " + want);
+                System.out.println(call + " answered " + got + ", due is " + want + (sentence.isEmpty() ? "" : " by: " + sentence));
             }
         }
     }
@@ -47,6 +79,7 @@ final class Teller {
     }
 
     void finish(String name) {
+        closeSentence();
         System.out.println(name + ": " + asked + " answers, " + wrong + " not as due");
         if (wrong != 0 || asked == 0) {
             System.exit(1);
