@@ -216,6 +216,11 @@ public final class BoundaryLogsTest {
         // as many as seven burst in one year
         ask("saying 0 0 0 1 19 0;" + "saying 0 0 0 0 8 0;".repeat(6), "", 20);
         ask("saying 0 0 2 0 1 0;" + "saying 0 0 1 0 1 0;".repeat(6), "heard 1 7;", 1);
+        CorkedTalk twice = Teller.told("saying 0 0 0 1 19 0;" + "saying 0 0 0 0 4 0;".repeat(6), null, "");
+        T.due("seven, or one, in year 20", 20, twice.fits(0, 0, 3));
+        T.due("asked once more", 20, twice.fits(0, 0, 3));
+        // two laws alone, 98 and 99, and one year that tells them apart
+        ask(two(9, 8) + "saying 0 0 0 1 4 1;saying 0 0 0 0 8 1;", "heard 1 2;", 5);
     }
 
     private static void fits() {
