@@ -1357,6 +1357,8 @@ public final class CorkedTalk {
         private final int[] places = new int[MOST_SAYINGS];
         /** By saying: which of the places it has in the row that is tried. */
         private final int[] taken = new int[MOST_SAYINGS];
+        /** By place: is it near the same ones as the place before it? Then a number stays if the two are changed. */
+        private int twins;
         private int used;
         private int least;
         private int known = NONE;
@@ -1375,6 +1377,7 @@ public final class CorkedTalk {
                 trains.takeUp(s);
             }
             sortPlaces(c);
+            findTwins(c);
             used = 0;
             best = c.sayings + 1;
             // with none near another: no laying has less
@@ -1390,6 +1393,19 @@ public final class CorkedTalk {
                     at--;
                 }
                 places[at] = c.place[s];
+            }
+        }
+
+        private void findTwins(Cellar c) {
+            twins = 0;
+            for (int i = 1; i < c.sayings; i++) {
+                boolean alike = true;
+                for (int k = 0; k < c.sayings; k++) {
+                    boolean nearThis = Math.abs(places[k] - places[i]) <= c.reach;
+                    boolean nearThat = Math.abs(places[k] - places[i - 1]) <= c.reach;
+                    alike &= nearThis == nearThat;
+                }
+                twins |= alike ? 1 << i : 0;
             }
         }
 
@@ -1431,10 +1447,10 @@ public final class CorkedTalk {
             return 0;
         }
 
-        /** Of like places only the first that is free, lest the same row be tried again. */
+        /** Of twins only the first that is free: the first row by numbers has theirs rising. */
         private boolean isNextFree(int i) {
-            boolean likeFreeOne = i > 0 && places[i - 1] == places[i] && !in(used, i - 1);
-            return !in(used, i) && !likeFreeOne;
+            boolean behindFreeTwin = in(twins, i) && !in(used, i - 1);
+            return !in(used, i) && !behindFreeTwin;
         }
     }
 
