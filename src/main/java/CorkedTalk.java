@@ -1403,7 +1403,7 @@ public final class CorkedTalk {
                 for (int k = 0; k < c.sayings; k++) {
                     boolean nearThis = Math.abs(places[k] - places[i]) <= c.reach;
                     boolean nearThat = Math.abs(places[k] - places[i - 1]) <= c.reach;
-                    alike &= nearThis == nearThat;
+                    alike = alike && nearThis == nearThat;
                 }
                 twins |= alike ? 1 << i : 0;
             }

@@ -8,13 +8,16 @@ public final class LayingTest {
     public static void main(String[] args) {
         int cellars = args.length > 0 ? Integer.parseInt(args[0]) : 1500;
         Random dice = new Random(args.length > 1 ? Long.parseLong(args[1]) : 11);
+        CorkedTalk x = new CorkedTalk();
         for (int i = 0; i < cellars; i++) {
-            hold(dice);
+            // one object for several cellars, so that what is left of the one before is seen
+            if (i % 15 == 0) x = new CorkedTalk();
+            hold(x, i % 15 == 0 ? CorkedTalk.NONE : 0, dice);
         }
         T.finish("LayingTest");
     }
 
-    private static void hold(Random dice) {
+    private static void hold(CorkedTalk x, int at, Random dice) {
         int n = dice.nextInt(4) == 0 ? dice.nextInt(8) : 7;
         int shock = dice.nextInt(4) == 0 ? dice.nextInt(10) : 1 + dice.nextInt(4);
         int reach = dice.nextInt(10);
@@ -32,7 +35,7 @@ public final class LayingTest {
             place[s] = dice.nextInt(spread);
             text.append("saying 1 0 ").append(fizz[s]).append(" 0 ").append(cork[s]).append(' ').append(place[s]).append(';');
         }
-        CorkedTalk x = Teller.cellar(text.toString());
+        T.due("text(0, " + at + "): " + text, 0, Teller.tell(x, 0, at, text.toString()));
         Arrays.sort(place);
         int least = n + 1;
         int[] best = new int[n];

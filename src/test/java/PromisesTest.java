@@ -849,6 +849,9 @@ public final class PromisesTest {
         T.due("of several the least", 1, x.half(1, 1, true));
         T.due("of two", 3, x.half(1, 2, true));
         T.due("all", 9, x.half(1, 3, false));
+        CorkedTalk full = withCellar("saying 3 0 0 0 9 0;".repeat(7));
+        T.due("all of seven", 21, full.half(0, 7, false));
+        T.due("all of seven", 127, full.half(0, 7, true));
     }
 
     private static void promise26After() {
